@@ -47,7 +47,8 @@ public final class BlueSmoke {
             return full();
         }
         for (int i = n - 1; i >= 0; i--) {
-            now.text[now.length++] = (int) (v >> (8 * i)) & 255;
+            set(now.text, now.length, (int) (v >> (8 * i)) & 255);
+            now.length++;
         }
         dayChanged();
         return now.length;
@@ -73,11 +74,11 @@ public final class BlueSmoke {
     }
 
     public int put(int what, int v) {
-        if (what < 0 || what >= SETTINGS || v < SETTING_LEAST[what] || v > SETTING_MOST[what]) {
+        if (!isSetting(what, v)) {
             return bad();
         }
-        int was = now.settings[what];
-        now.settings[what] = v;
+        int was = at(now.settings, what);
+        set(now.settings, what, v);
         dayChanged();
         return was;
     }
@@ -86,8 +87,8 @@ public final class BlueSmoke {
         if (kind < 0 || kind >= KINDS || v < 0 || v > 9) {
             return bad();
         }
-        int was = now.priors[kind];
-        now.priors[kind] = v;
+        int was = at(now.priors, kind);
+        set(now.priors, kind, v);
         guessesStale = true;
         return was;
     }
@@ -97,7 +98,7 @@ public final class BlueSmoke {
         if (cylinder < 0 || cylinder >= CYLINDERS || !(none || isFault(kind, deep))) {
             return bad();
         }
-        now.motor[cylinder] = none ? NONE : faultOf(kind, deep);
+        set(now.motor, cylinder, none ? NONE : faultOf(kind, deep));
         return 1;
     }
 
@@ -108,7 +109,7 @@ public final class BlueSmoke {
         if (minute < 0 || minute > day.length) {
             return bad();
         }
-        return day.warmth[minute];
+        return at(day.warmth, minute);
     }
 
     public int gives(int kind, int deep, int minute, int color) {
@@ -118,7 +119,7 @@ public final class BlueSmoke {
         if (!isFault(kind, deep) || !day.has(minute) || !isColor(color)) {
             return bad();
         }
-        return day.givenBy(faultOf(kind, deep), minute, color);
+        return day.given(faultOf(kind, deep), minute, color);
     }
 
     public int smoke(int minute, int color, int cut) {
@@ -155,11 +156,11 @@ public final class BlueSmoke {
         if (now.lookCount >= LOOKS_MOST) {
             return full();
         }
-        int at = now.lookCount * LOOK_SIZE;
-        now.looks[at] = minute;
-        now.looks[at + 1] = color;
-        now.looks[at + 2] = cut;
-        now.looks[at + 3] = level;
+        int place = now.lookCount * LOOK_SIZE;
+        set(now.looks, place, minute);
+        set(now.looks, place + 1, color);
+        set(now.looks, place + 2, cut);
+        set(now.looks, place + 3, level);
         guessesStale = true;
         return now.lookCount++;
     }
@@ -218,7 +219,7 @@ public final class BlueSmoke {
             day.bring(minute, color, guesses.each);
             for (int cut = 0; cut <= NO_CUT; cut++) {
                 guesses.addUp(cut);
-                long share = guesses.greatestLevel(now.settings[THIN]);
+                long share = guesses.greatestLevel(at(now.settings, THIN));
                 if (share < least) {
                     least = share;
                     best = 10 * color + cut;
@@ -245,14 +246,14 @@ public final class BlueSmoke {
         if (dayIsFaulty()) {
             return no();
         }
-        day.workOut(WARM_MOST);
+        day.heat(WARM_MOST);
         int bits = 0;
         for (int kind = 0; kind < KINDS; kind++) {
             if (day.givesNothing(faultOf(kind, DEPTHS))) {
                 bits |= 1 << kind;
             }
         }
-        day.workOut(now.settings[FIRST]);
+        day.heat(at(now.settings, FIRST));
         return bits;
     }
 
@@ -271,7 +272,7 @@ public final class BlueSmoke {
             return bad();
         }
         plan.make(deep, n, w, loss);
-        fraction.setShare(plan.best[deep], plan.scale);
+        fraction.setShare(at(plan.best, deep), plan.scale);
         return 1;
     }
 
@@ -290,10 +291,10 @@ public final class BlueSmoke {
         if (now.partCount >= PARTS_MOST) {
             return full();
         }
-        int at = now.partCount * PART_SIZE;
-        now.parts[at] = cost;
-        now.parts[at + 1] = hours;
-        now.parts[at + 2] = a;
+        int place = now.partCount * PART_SIZE;
+        set(now.parts, place, cost);
+        set(now.parts, place + 1, hours);
+        set(now.parts, place + 2, a);
         return now.partCount++;
     }
 
@@ -336,7 +337,7 @@ public final class BlueSmoke {
     }
 
     public int image(int i) {
-        if (i < 0 || i >= IMAGES) {
+        if (i < 0 || i >= images.length) {
             return bad();
         }
         Kept kept = images[i];
@@ -349,7 +350,7 @@ public final class BlueSmoke {
     }
 
     public int from(int i) {
-        if (i < 0 || i >= IMAGES) {
+        if (i < 0 || i >= images.length) {
             return bad();
         }
         Kept kept = images[i];
@@ -415,6 +416,11 @@ public final class BlueSmoke {
         return FULL;
     }
 
+    private static boolean isSetting(int what, int v) {
+        boolean told = what >= 0 && what < SETTING_LEAST.length && what < SETTING_MOST.length;
+        return told && v >= SETTING_LEAST[what] && v <= SETTING_MOST[what];
+    }
+
     private static boolean isDeep(int deep) {
         return deep >= 1 && deep <= DEPTHS;
     }
@@ -449,7 +455,7 @@ public final class BlueSmoke {
     private void readDay() {
         if (dayStale) {
             day.read(now.text, now.length);
-            day.workOut(now.settings[FIRST]);
+            day.heat(at(now.settings, FIRST));
             dayStale = false;
         }
     }
@@ -473,14 +479,14 @@ public final class BlueSmoke {
     }
 
     private void weighGuesses() {
-        guesses.begin(now.settings[SOUND], now.priors);
+        guesses.begin(at(now.settings, SOUND), now.priors);
         for (int i = 0; i < now.lookCount; i++) {
-            int at = i * LOOK_SIZE;
-            int minute = now.looks[at];
+            int place = i * LOOK_SIZE;
+            int minute = at(now.looks, place);
             if (day.has(minute)) {
-                day.bring(minute, now.looks[at + 1], guesses.each);
-                guesses.addUp(now.looks[at + 2]);
-                guesses.weigh(now.looks[at + 3], now.settings[THIN], now.settings[RIGHT]);
+                day.bring(minute, at(now.looks, place + 1), guesses.each);
+                guesses.addUp(at(now.looks, place + 2));
+                guesses.weigh(at(now.looks, place + 3), at(now.settings, THIN), at(now.settings, RIGHT));
             }
         }
         guesses.total();
@@ -489,9 +495,9 @@ public final class BlueSmoke {
     private int smokeOf(int minute, int color, int cut) {
         int sum = 0;
         for (int cylinder = 0; cylinder < CYLINDERS; cylinder++) {
-            int fault = now.motor[cylinder];
+            int fault = at(now.motor, cylinder);
             if (fault != NONE && cylinder != cut) {
-                sum += day.givenBy(fault, minute, color);
+                sum += day.given(fault, minute, color);
             }
         }
         return sum;
@@ -514,6 +520,34 @@ public final class BlueSmoke {
         return h;
     }
 
+    // ---- rows: a place is looked at before it is used
+
+    private static int at(int[] row, int i) {
+        return row != null && i >= 0 && i < row.length ? row[i] : 0;
+    }
+
+    private static long at(long[] row, int i) {
+        return row != null && i >= 0 && i < row.length ? row[i] : 0;
+    }
+
+    private static void set(int[] row, int i, int v) {
+        if (row != null && i >= 0 && i < row.length) {
+            row[i] = v;
+        }
+    }
+
+    private static void set(long[] row, int i, long v) {
+        if (row != null && i >= 0 && i < row.length) {
+            row[i] = v;
+        }
+    }
+
+    private static void copy(int[] from, int[] to) {
+        for (int i = 0; i < from.length && i < to.length; i++) {
+            to[i] = from[i];
+        }
+    }
+
     /** All that an image keeps. */
     private static final class Kept {
         final int[] text = new int[TEXT_MOST];
@@ -527,14 +561,14 @@ public final class BlueSmoke {
         int partCount;
 
         void become(Kept other) {
-            System.arraycopy(other.text, 0, text, 0, TEXT_MOST);
+            copy(other.text, text);
             length = other.length;
-            System.arraycopy(other.settings, 0, settings, 0, SETTINGS);
-            System.arraycopy(other.priors, 0, priors, 0, KINDS);
-            System.arraycopy(other.motor, 0, motor, 0, CYLINDERS);
-            System.arraycopy(other.looks, 0, looks, 0, LOOKS_MOST * LOOK_SIZE);
+            copy(other.settings, settings);
+            copy(other.priors, priors);
+            copy(other.motor, motor);
+            copy(other.looks, looks);
             lookCount = other.lookCount;
-            System.arraycopy(other.parts, 0, parts, 0, PARTS_MOST * PART_SIZE);
+            copy(other.parts, parts);
             partCount = other.partCount;
         }
 
@@ -565,7 +599,7 @@ public final class BlueSmoke {
             int sum = 0;
             for (int i = 0; i < partCount; i++) {
                 if ((set >> i & 1) == 1) {
-                    sum += parts[i * PART_SIZE];
+                    sum += at(parts, i * PART_SIZE);
                 }
             }
             return sum;
@@ -575,7 +609,7 @@ public final class BlueSmoke {
             int sum = 0;
             for (int i = 0; i < partCount; i++) {
                 if ((set >> i & 1) == 1) {
-                    sum += parts[i * PART_SIZE + 1] * parts[i * PART_SIZE + 2];
+                    sum += at(parts, i * PART_SIZE + 1) * at(parts, i * PART_SIZE + 2);
                 }
             }
             return sum;
@@ -586,123 +620,131 @@ public final class BlueSmoke {
     private static final class Day {
         private static final int STAND = 0, IDLE = 1, PULL = 2, COAST = 3;
         private static final int WORD = 0, STRENGTH = 1, SPAN = 2, END = 3;
-        private static final int LETTER = 0, FIGURE = 1, OTHER = 2;
+        private static final int BLANK = 0, LETTER = 1, FIGURE = 2, OTHER = 3;
+        private static final int SPAN_MOST = 60;
 
         /** Where the text can't go on, NONE if it is told well. */
         int wrongAt = NONE;
         int length;
-        final int[] load = new int[MINUTES_MOST];
-        final boolean[] off = new boolean[MINUTES_MOST];
-        final boolean[] drawn = new boolean[MINUTES_MOST];
         final int[] warmth = new int[MINUTES_MOST + 1];
-        final int[] given = new int[FAULTS * COLORS * MINUTES_MOST];
+        private final int[] items = new int[MINUTES_MOST];
+        private final int[] loads = new int[MINUTES_MOST];
+        /** What STEMMED burns of the oil that it holds: a row of minutes for each depth. */
+        private final int[] oils = new int[DEPTHS * MINUTES_MOST];
         private int awaited;
         private int item;
         private int itemLoad;
 
+        /** Reads the text up to the first token that can't stand; it must be heated behind this. */
         void read(int[] text, int textLength) {
             wrongAt = NONE;
             length = 0;
             awaited = WORD;
-            int at = 0;
-            while (at < textLength && wrongAt == NONE) {
-                if (text[at] == ' ') {
-                    at++;
-                } else {
-                    int end = tokenEnd(text, at, textLength);
-                    if (!takesToken(text, at, end)) {
-                        wrongAt = at;
-                    }
-                    at = end;
+            for (int place = 0; place < textLength && wrongAt == NONE; place++) {
+                if (beginsToken(text, place) && !takesToken(text, place, tokenEnd(text, place, textLength))) {
+                    wrongAt = place;
                 }
             }
             if (wrongAt == NONE && awaited != WORD) {
                 wrongAt = textLength;
             }
+            for (int deep = 1; deep <= DEPTHS; deep++) {
+                seep(deep);
+            }
         }
 
         private static int sortOf(int sign) {
+            if (sign == ' ') {
+                return BLANK;
+            }
             if (sign >= 'a' && sign <= 'z') {
                 return LETTER;
             }
             return sign >= '0' && sign <= '9' ? FIGURE : OTHER;
         }
 
-        private static int tokenEnd(int[] text, int at, int textLength) {
-            int sort = sortOf(text[at]);
-            int end = at + 1;
-            while (sort != OTHER && end < textLength && sortOf(text[end]) == sort) {
+        private static boolean beginsToken(int[] text, int place) {
+            int sort = sortOf(at(text, place));
+            if (sort == BLANK) {
+                return false;
+            }
+            return sort == OTHER || place == 0 || sortOf(at(text, place - 1)) != sort;
+        }
+
+        private static int tokenEnd(int[] text, int place, int textLength) {
+            int sort = sortOf(at(text, place));
+            int end = place + 1;
+            while (sort != OTHER && end < textLength && sortOf(at(text, end)) == sort) {
                 end++;
             }
             return end;
         }
 
-        private boolean takesToken(int[] text, int at, int end) {
+        private boolean takesToken(int[] text, int place, int end) {
             switch (awaited) {
                 case WORD:
-                    item = itemAt(text, at, end);
+                    item = itemAt(text, place, end);
                     itemLoad = 0;
                     awaited = item == PULL ? STRENGTH : SPAN;
                     return item != NONE;
                 case STRENGTH:
-                    itemLoad = numberAt(text, at, end);
+                    itemLoad = numberAt(text, place, end);
                     awaited = SPAN;
                     return itemLoad >= 1 && itemLoad <= LOAD_MOST;
                 case SPAN:
                     awaited = END;
-                    return lasts(numberAt(text, at, end));
+                    return lasts(numberAt(text, place, end));
                 default:
                     awaited = WORD;
-                    return text[at] == ';';
+                    return at(text, place) == ';';
             }
         }
 
-        private static int itemAt(int[] text, int at, int end) {
-            if (isWord(text, at, end, "stand")) {
+        private static int itemAt(int[] text, int place, int end) {
+            if (isWord(text, place, end, "stand")) {
                 return STAND;
             }
-            if (isWord(text, at, end, "idle")) {
+            if (isWord(text, place, end, "idle")) {
                 return IDLE;
             }
-            if (isWord(text, at, end, "pull")) {
+            if (isWord(text, place, end, "pull")) {
                 return PULL;
             }
-            return isWord(text, at, end, "coast") ? COAST : NONE;
+            return isWord(text, place, end, "coast") ? COAST : NONE;
         }
 
-        private static boolean isWord(int[] text, int at, int end, String word) {
-            if (end - at != word.length()) {
+        private static boolean isWord(int[] text, int place, int end, String word) {
+            if (end - place != word.length()) {
                 return false;
             }
             for (int i = 0; i < word.length(); i++) {
-                if (text[at + i] != word.charAt(i)) {
+                if (at(text, place + i) != word.charAt(i)) {
                     return false;
                 }
             }
             return true;
         }
 
-        /** The number of one or two figures from at to end; NONE if it is no such number. */
-        private static int numberAt(int[] text, int at, int end) {
-            if (sortOf(text[at]) != FIGURE || end - at > 2) {
+        /** The number of one or two figures from place to end; NONE if it is no such number. */
+        private static int numberAt(int[] text, int place, int end) {
+            if (sortOf(at(text, place)) != FIGURE || end - place > 2) {
                 return NONE;
             }
             int number = 0;
-            for (int i = at; i < end; i++) {
-                number = 10 * number + text[i] - '0';
+            for (int i = place; i < end; i++) {
+                number = 10 * number + at(text, i) - '0';
             }
             return number;
         }
 
         /** Puts n minutes of the item to the day; not if n is not as told or they are too many. */
         private boolean lasts(int n) {
-            if (n < 1 || n > 60 || length + n > MINUTES_MOST) {
+            if (n < 1 || n > SPAN_MOST || length + n > MINUTES_MOST) {
                 return false;
             }
             for (int i = 0; i < n; i++) {
-                load[length] = itemLoad;
-                off[length] = item == STAND;
-                drawn[length] = item == COAST;
+                set(items, length, item);
+                set(loads, length, itemLoad);
                 length++;
             }
             return true;
@@ -712,123 +754,108 @@ public final class BlueSmoke {
             return minute >= 0 && minute < length;
         }
 
-        /** Works out the day anew, as warm as told ahead of its first minute. */
-        void workOut(int first) {
-            heat(first);
-            for (int fault = 0; fault < FAULTS; fault++) {
-                run(fault);
-            }
-        }
-
-        private void heat(int first) {
-            int now = first;
+        /** Works out how warm each minute is, as warm as told ahead of the first one. */
+        void heat(int first) {
+            int warm = first;
             for (int minute = 0; minute < length; minute++) {
-                warmth[minute] = now;
-                if (off[minute]) {
-                    now = Math.max(now - 1, 0);
+                set(warmth, minute, warm);
+                if (at(items, minute) == STAND) {
+                    warm = Math.max(warm - 1, 0);
                 } else {
-                    now = Math.min(now + 2 + load[minute] / 3, WARM_MOST);
+                    warm = Math.min(warm + 2 + at(loads, minute) / 3, WARM_MOST);
                 }
             }
-            warmth[length] = now;
+            set(warmth, length, warm);
         }
 
-        private void run(int fault) {
-            int kind = fault / DEPTHS;
-            int deep = fault % DEPTHS + 1;
+        /** Works out what STEMMED burns in each minute. */
+        private void seep(int deep) {
             int held = 0;
             for (int minute = 0; minute < length; minute++) {
-                held = Math.min(held + seeps(deep, minute), OIL_MOST);
-                int oil = stemmed(deep, minute, held);
-                held -= oil;
-                boolean runs = !off[minute];
-                int at = place(fault, minute, BLUE);
-                given[at + BLUE] = runs ? blue(kind, deep, minute, oil) : 0;
-                given[at + SWEET] = runs ? sweet(kind, deep, minute) : 0;
-                given[at + SHARP] = runs && kind == LATE ? sharp(deep, minute) : 0;
-                given[at + BLACK] = runs ? black(kind, deep, minute) : 0;
+                int doing = at(items, minute);
+                int more = doing == STAND ? deep : doing == COAST ? 3 * deep : 0;
+                int most = doing == PULL ? 4 * deep : doing == IDLE ? 1 : 0;
+                held = Math.min(held + more, OIL_MOST);
+                int burnt = Math.min(held, most);
+                held -= burnt;
+                set(oils, oilPlace(deep, minute), burnt);
             }
         }
 
-        private static int place(int fault, int minute, int color) {
-            return (fault * MINUTES_MOST + minute) * COLORS + color;
+        private static int oilPlace(int deep, int minute) {
+            return (deep - 1) * MINUTES_MOST + minute;
         }
 
-        private int seeps(int deep, int minute) {
-            if (off[minute]) {
-                return deep;
-            }
-            return drawn[minute] ? 3 * deep : 0;
-        }
-
-        /** What STEMMED burns of the oil that it holds. */
-        private int stemmed(int deep, int minute, int held) {
-            if (off[minute] || drawn[minute]) {
+        /** What a fault gives of a color in a minute. */
+        int given(int fault, int minute, int color) {
+            if (at(items, minute) == STAND) {
                 return 0;
             }
-            return Math.min(held, ringed(deep, minute) > 0 ? 4 * deep : 1);
+            int kind = fault / DEPTHS;
+            int deep = fault % DEPTHS + 1;
+            int load = at(loads, minute);
+            switch (color) {
+                case BLUE:
+                    return kind == STEMMED ? at(oils, oilPlace(deep, minute)) : blue(kind, deep, load);
+                case SWEET:
+                    return sweet(kind, deep, at(warmth, minute));
+                case SHARP:
+                    return kind == LATE ? sharp(deep, load, at(warmth, minute)) : 0;
+                default:
+                    return black(kind, deep, load);
+            }
         }
 
-        private int blue(int kind, int deep, int minute, int oil) {
+        private static int blue(int kind, int deep, int load) {
+            int ringed = deep * load;
             switch (kind) {
                 case RINGED:
-                    return ringed(deep, minute);
-                case STEMMED:
-                    return oil;
+                    return ringed;
                 case WORN:
-                    return ringed(deep, minute) / 2;
+                    return ringed / 2;
                 default:
                     return 0;
             }
         }
 
-        private int sweet(int kind, int deep, int minute) {
+        private static int sweet(int kind, int deep, int warm) {
             switch (kind) {
                 case CRACKED:
-                    return cracked(deep, minute);
+                    return cracked(deep, warm);
                 case WORN:
-                    return warmth[minute] < 30 ? 1 : 0;
+                    return warm < 30 ? 1 : 0;
                 default:
                     return 0;
             }
         }
 
-        private int sharp(int deep, int minute) {
-            return cracked(deep, minute) / 2 + (load[minute] == 0 ? deep : 0);
+        private static int cracked(int deep, int warm) {
+            return deep * (WARM_MOST - warm) / 20;
         }
 
-        private int black(int kind, int deep, int minute) {
+        private static int sharp(int deep, int load, int warm) {
+            return cracked(deep, warm) / 2 + (load == 0 ? deep : 0);
+        }
+
+        private static int black(int kind, int deep, int load) {
             switch (kind) {
                 case OVER:
-                    return over(deep, load[minute]);
+                    return over(deep, load);
                 case STARVED:
-                    int thicker = load[minute] == 0 ? 0 : load[minute] + 2;
-                    return over(deep, thicker) + (load[minute] > 6 ? deep : 0);
+                    return over(deep, load == 0 ? 0 : load + 2) + (load > 6 ? deep : 0);
                 default:
                     return 0;
             }
-        }
-
-        private int ringed(int deep, int minute) {
-            return deep * load[minute];
-        }
-
-        private int cracked(int deep, int minute) {
-            return deep * (WARM_MOST - warmth[minute]) / 20;
         }
 
         private static int over(int deep, int load) {
             return Math.max(deep * (load - 4), 0);
         }
 
-        int givenBy(int fault, int minute, int color) {
-            return given[place(fault, minute, color)];
-        }
-
         boolean givesNothing(int fault) {
             for (int minute = 0; minute < length; minute++) {
                 for (int color = 0; color < COLORS; color++) {
-                    if (givenBy(fault, minute, color) > 0) {
+                    if (given(fault, minute, color) > 0) {
                         return false;
                     }
                 }
@@ -838,70 +865,73 @@ public final class BlueSmoke {
 
         /** Brings what each fault gives of a color in a minute. */
         void bring(int minute, int color, int[] each) {
-            for (int fault = 0; fault < FAULTS; fault++) {
-                each[fault] = givenBy(fault, minute, color);
+            for (int fault = 0; fault < each.length; fault++) {
+                each[fault] = given(fault, minute, color);
             }
         }
 
         /** Brings what each fault burns of oil in all of the day. */
         void bringBurnt(int[] each) {
-            for (int fault = 0; fault < FAULTS; fault++) {
-                each[fault] = 0;
+            for (int fault = 0; fault < each.length; fault++) {
+                int sum = 0;
                 for (int minute = 0; minute < length; minute++) {
-                    each[fault] += givenBy(fault, minute, BLUE);
+                    sum += given(fault, minute, BLUE);
                 }
+                each[fault] = sum;
             }
         }
     }
 
     /** All guesses of no fault, of one and of two, by their numbers, with their weights. */
     private static final class Guesses {
-        final long[] weights = new long[GUESSES];
+        private static final int BOTH = FAULTS * FAULTS;
+
         long all;
         /** An amount that goes with each fault, brought from outside. */
         final int[] each = new int[FAULTS];
+        private final long[] weights = new long[GUESSES];
         /** The amounts of a guess's faults together. */
-        final int[] amounts = new int[GUESSES];
+        private final int[] amounts = new int[GUESSES];
 
         /** Sets the weights ahead of all looks. */
         void begin(int sound, int[] priors) {
-            for (int fault = 0; fault < FAULTS; fault++) {
-                each[fault] = priors[fault / DEPTHS] * (DEPTHS - fault % DEPTHS);
+            for (int fault = 0; fault < each.length; fault++) {
+                each[fault] = at(priors, fault / DEPTHS) * (DEPTHS - fault % DEPTHS);
             }
-            weights[0] = sound;
-            for (int number = 1; number < GUESSES; number++) {
+            set(weights, 0, sound);
+            for (int number = 1; number < weights.length; number++) {
                 if (number < FIRST_OF_TWO) {
-                    weights[number] = 9 * each[(number - 1) % FAULTS];
+                    weights[number] = 9 * at(each, (number - 1) % FAULTS);
                 } else {
-                    int both = (number - FIRST_OF_TWO) % (FAULTS * FAULTS);
-                    weights[number] = each[both / FAULTS] * each[both % FAULTS];
+                    int both = (number - FIRST_OF_TWO) % BOTH;
+                    weights[number] = at(each, both / FAULTS) * at(each, both % FAULTS);
                 }
             }
         }
 
         /** Adds up the amounts of each guess's faults, but for the cylinder that is cut. */
         void addUp(int cut) {
-            amounts[0] = 0;
-            int number = 1;
+            set(amounts, 0, 0);
             for (int one = 0; one < CYLINDERS; one++) {
-                for (int f = 0; f < FAULTS; f++) {
-                    amounts[number++] = one == cut ? 0 : each[f];
+                for (int fault = 0; fault < each.length; fault++) {
+                    set(amounts, 1 + one * FAULTS + fault, one == cut ? 0 : each[fault]);
                 }
             }
+            int pairs = 0;
             for (int one = 0; one < CYLINDERS; one++) {
                 for (int other = one + 1; other < CYLINDERS; other++) {
-                    addUpPair(number, one == cut, other == cut);
-                    number += FAULTS * FAULTS;
+                    addUpPair(FIRST_OF_TWO + pairs * BOTH, one == cut, other == cut);
+                    pairs++;
                 }
             }
         }
 
         private void addUpPair(int firstNumber, boolean oneCut, boolean otherCut) {
             int number = firstNumber;
-            for (int f = 0; f < FAULTS; f++) {
-                int ofOne = oneCut ? 0 : each[f];
-                for (int g = 0; g < FAULTS; g++) {
-                    amounts[number++] = ofOne + (otherCut ? 0 : each[g]);
+            for (int ofOne : each) {
+                for (int ofOther : each) {
+                    set(amounts, number, (oneCut ? 0 : ofOne) + (otherCut ? 0 : ofOther));
+                    number++;
                 }
             }
         }
@@ -913,9 +943,10 @@ public final class BlueSmoke {
             return amount <= thin ? 1 : 2;
         }
 
+        /** Weighs a look at what was added up last. */
         void weigh(int level, int thin, int right) {
-            for (int number = 0; number < GUESSES; number++) {
-                boolean agrees = levelOf(amounts[number], thin) == level;
+            for (int number = 0; number < weights.length; number++) {
+                boolean agrees = levelOf(at(amounts, number), thin) == level;
                 weights[number] *= agrees ? 2 * right : 10 - right;
             }
         }
@@ -935,8 +966,8 @@ public final class BlueSmoke {
             if (number < FIRST_OF_TWO) {
                 return (number - 1) / FAULTS == cylinder ? (number - 1) % FAULTS : NONE;
             }
-            int pair = (number - FIRST_OF_TWO) / (FAULTS * FAULTS);
-            int both = (number - FIRST_OF_TWO) % (FAULTS * FAULTS);
+            int pair = (number - FIRST_OF_TWO) / BOTH;
+            int both = (number - FIRST_OF_TWO) % BOTH;
             // pairs 0 .. 2 are 0 1, 0 2, 0 3; 3 and 4 are 1 2, 1 3; 5 is 2 3
             int one = pair < 3 ? 0 : pair < 5 ? 1 : 2;
             int other = pair < 3 ? pair + 1 : pair < 5 ? pair - 1 : 3;
@@ -949,7 +980,7 @@ public final class BlueSmoke {
         /** The weight of all guesses by which a cylinder has a kind (or no fault). */
         long having(int cylinder, int kind) {
             long sum = 0;
-            for (int number = 0; number < GUESSES; number++) {
+            for (int number = 0; number < weights.length; number++) {
                 int fault = faultIn(number, cylinder);
                 int has = fault == NONE ? NO_FAULT : fault / DEPTHS;
                 if (has == kind) {
@@ -961,7 +992,7 @@ public final class BlueSmoke {
 
         long ofTwo() {
             long sum = 0;
-            for (int number = FIRST_OF_TWO; number < GUESSES; number++) {
+            for (int number = FIRST_OF_TWO; number < weights.length; number++) {
                 sum += weights[number];
             }
             return sum;
@@ -969,9 +1000,11 @@ public final class BlueSmoke {
 
         int greatest() {
             int best = 0;
-            for (int number = 1; number < GUESSES; number++) {
-                if (weights[number] > weights[best]) {
+            long most = at(weights, 0);
+            for (int number = 1; number < weights.length; number++) {
+                if (weights[number] > most) {
                     best = number;
+                    most = weights[number];
                 }
             }
             return best;
@@ -981,8 +1014,8 @@ public final class BlueSmoke {
         long greatestLevel(int thin) {
             long nothing = 0;
             long little = 0;
-            for (int number = 0; number < GUESSES; number++) {
-                int level = levelOf(amounts[number], thin);
+            for (int number = 0; number < weights.length; number++) {
+                int level = levelOf(at(amounts, number), thin);
                 if (level == 0) {
                     nothing += weights[number];
                 } else if (level == 1) {
@@ -995,8 +1028,8 @@ public final class BlueSmoke {
         /** The weight of all guesses whose amount is below a bound. */
         long below(int bound) {
             long sum = 0;
-            for (int number = 0; number < GUESSES; number++) {
-                if (amounts[number] < bound) {
+            for (int number = 0; number < weights.length; number++) {
+                if (at(amounts, number) < bound) {
                     sum += weights[number];
                 }
             }
@@ -1020,11 +1053,11 @@ public final class BlueSmoke {
             scale = 1;
             firstLoad = 0;
             for (int left = 1; left <= n; left++) {
-                best[GONE] = -loss * scale;
+                set(best, GONE, -loss * scale);
                 // deeper ones still hold what is best behind this day while a lesser one asks for it
                 for (int d = 1; d <= DEPTHS; d++) {
                     int load = bestLoad(d, w);
-                    best[d] = worth(d, w, load);
+                    set(best, d, worth(d, w, load));
                     if (d == deep) {
                         firstLoad = load;
                     }
@@ -1034,14 +1067,17 @@ public final class BlueSmoke {
         }
 
         private long worth(int d, int w, int load) {
-            return load * w * CHANCES * scale + load * best[d + 1] + (CHANCES - load) * best[d];
+            return load * w * CHANCES * scale + load * at(best, d + 1) + (CHANCES - load) * at(best, d);
         }
 
         private int bestLoad(int d, int w) {
             int chosen = 0;
+            long most = worth(d, w, 0);
             for (int load = 1; load <= LOAD_MOST; load++) {
-                if (worth(d, w, load) > worth(d, w, chosen)) {
+                long comesTo = worth(d, w, load);
+                if (comesTo > most) {
                     chosen = load;
+                    most = comesTo;
                 }
             }
             return chosen;
@@ -1056,7 +1092,10 @@ public final class BlueSmoke {
 
         final long[] above = new long[LIMBS];
         final long[] below = new long[LIMBS];
-        private final long[][] chances = new long[DEPTHS + 1][LIMBS];
+        /** The chances of being 1, 2 and 3 deep, over what below holds. */
+        private final long[] atOne = new long[LIMBS];
+        private final long[] atTwo = new long[LIMBS];
+        private final long[] atThree = new long[LIMBS];
 
         Fraction() {
             below[0] = 1;
@@ -1084,36 +1123,37 @@ public final class BlueSmoke {
         }
 
         private static void write(long[] limbs, long value) {
-            for (int i = 0; i < LIMBS; i++) {
+            for (int i = 0; i < limbs.length; i++) {
                 limbs[i] = value >> (LIMB_BITS * i) & LIMB_MASK;
             }
         }
 
         /** The chance that a fault is gone behind n days: by 20 at each day, then lowered. */
         void setGone(int deep, int load, int n) {
-            for (int i = 0; i <= DEPTHS; i++) {
-                write(chances[i], i == deep - 1 ? 1 : 0);
-            }
+            write(atOne, deep == 1 ? 1 : 0);
+            write(atTwo, deep == 2 ? 1 : 0);
+            write(atThree, deep == 3 ? 1 : 0);
+            write(above, 0);
             write(below, 1);
+            int stays = CHANCES - load;
             for (int day = 0; day < n; day++) {
-                mix(chances[DEPTHS], CHANCES, chances[DEPTHS - 1], load);
-                for (int i = DEPTHS - 1; i > 0; i--) {
-                    mix(chances[i], CHANCES - load, chances[i - 1], load);
-                }
-                mix(chances[0], CHANCES - load, chances[0], 0);
+                // from the deepest on, so that each takes what the lesser one was ahead of this day
+                mix(above, CHANCES, atThree, load);
+                mix(atThree, stays, atTwo, load);
+                mix(atTwo, stays, atOne, load);
+                mix(atOne, stays, atOne, 0);
                 mix(below, CHANCES, below, 0);
             }
-            System.arraycopy(chances[DEPTHS], 0, above, 0, LIMBS);
             // below is a power of 20: nothing but 2 and 5 divides it
             lower(2, 2 * n);
             lower(5, n);
         }
 
         /** Makes a number so many times itself and so many times another. */
-        private static void mix(long[] into, int times, long[] from, int fromTimes) {
+        private static void mix(long[] into, int times, long[] other, int otherTimes) {
             long carry = 0;
-            for (int i = 0; i < LIMBS; i++) {
-                long sum = into[i] * times + from[i] * fromTimes + carry;
+            for (int i = 0; i < into.length; i++) {
+                long sum = into[i] * times + at(other, i) * otherTimes + carry;
                 into[i] = sum & LIMB_MASK;
                 carry = sum >> LIMB_BITS;
             }
@@ -1131,31 +1171,31 @@ public final class BlueSmoke {
 
         private static long restOf(long[] limbs, int prime) {
             long rest = 0;
-            for (int i = LIMBS - 1; i >= 0; i--) {
-                rest = ((rest << LIMB_BITS) + limbs[i]) % prime;
+            for (int i = limbs.length - 1; i >= 0 && prime > 0; i--) {
+                rest = ((rest << LIMB_BITS) + at(limbs, i)) % prime;
             }
             return rest;
         }
 
         private static void divide(long[] limbs, int prime) {
             long rest = 0;
-            for (int i = LIMBS - 1; i >= 0; i--) {
-                long sum = (rest << LIMB_BITS) + limbs[i];
-                limbs[i] = sum / prime;
+            for (int i = limbs.length - 1; i >= 0 && prime > 0; i--) {
+                long sum = (rest << LIMB_BITS) + at(limbs, i);
+                set(limbs, i, sum / prime);
                 rest = sum % prime;
             }
         }
 
         static int limbsOf(long[] limbs) {
-            int many = LIMBS;
-            while (many > 0 && limbs[many - 1] == 0) {
+            int many = limbs.length;
+            while (many > 0 && at(limbs, many - 1) == 0) {
                 many--;
             }
             return many;
         }
 
         int limbOf(int which, int i) {
-            return (int) (which == 0 ? above[i] : below[i]);
+            return (int) at(which == 0 ? above : below, i);
         }
     }
 }
