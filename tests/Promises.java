@@ -31,6 +31,12 @@ public final class Promises {
         dueLimbs(what + " below", x, 1, below);
     }
 
+    /** Both told with what they have in common. */
+    private static void dueFraction(String what, BlueSmoke x, int answer, long above, long below, long common) {
+        due(what + " by hand", above % common + below % common, 0);
+        dueFraction(what, x, answer, above / common, below / common);
+    }
+
     private static void dueLimbs(String what, BlueSmoke x, int which, long value) {
         int many = 0;
         for (long rest = value; rest > 0; rest /= 1073741824L) {
@@ -180,6 +186,20 @@ public final class Promises {
         dueFaulty("idle 1\t;", 6);
         dueFaulty("idle 1;\u00e4", 7);
         dueFaulty("? idle x", 0);
+        dueFaulty("idlez 1;", 0);
+        dueFaulty("aidle 1;", 0);
+        dueFaulty("xtand 1;", 0);
+        dueFaulty("stane 1;", 0);
+        dueFaulty("idle`1;", 4);
+        dueFaulty("idle{1;", 4);
+        dueFaulty("idle 1/;", 6);
+        dueFaulty("idle 1:", 6);
+        dueFaulty("idle pull;", 5);
+        dueFaulty("pull coast;", 5);
+        dueFaulty("12 idle", 0);
+        dueFaulty("stand5;stand05 ;stand 5; ", NONE);
+        dueFaulty("stand 60; idle 60; pull 9 60;", 26);
+        dueFaulty("stand 60; idle 60; pull 9 61;", 26);
         dueFaulty("-1", 0);
     }
 
@@ -267,6 +287,14 @@ public final class Promises {
         due("9 up to 100", x.warm(1), 100);
         due("9 no more", x.warm(2), 100);
         dueStatus("9", x, 2, 0, 0);
+        BlueSmoke longest = day("idle 1;stand 59;idle 59;pull 9 1;");
+        due("9 ahead of the longest day's last", longest.warm(119), 100);
+        longest.put(0, 0);
+        due("9 behind the longest day's last", longest.warm(120), 100);
+        due("9 behind that there is none", longest.warm(121), BAD);
+        BlueSmoke cooling = day("pull 9 20;stand 40;stand 60;");
+        due("9 at its last", cooling.warm(119), 1);
+        due("9 behind its last", cooling.warm(120), 0);
         due("9 empty, first", new BlueSmoke().warm(0), 0);
         due("9 empty", new BlueSmoke().warm(1), BAD);
         BlueSmoke y = day("idle 5");
@@ -496,8 +524,40 @@ public final class Promises {
         due("15 by hand, below", all, 18 * 245);
         dueFraction("15 zero", x, x.odds(0, 0), 88, 245);
         x.forget();
+        dueFraction("15 asked ahead of a look", x, x.odds(0, 7), 31, 49);
         x.look(1, 0, 0, 1);
         dueFraction("15 behind the last minute", x, x.odds(0, 7), 31, 49);
+        x.look(0, 3, NONE, 0);
+        dueFraction("15 no black by any", x, x.odds(0, 7), 31, 49);
+        x.look(0, 0, NONE, 2);
+        // none cut: nothing 9, thin 4 * 45 + 6 * 9, more 4 * 9 + 6 * 27, of these 2 * 6 * 27 with two
+        dueFraction("15 much was seen", x, x.two(), 54 * 2 + 162 * 16, 9 * 2 + 234 * 2 + 198 * 16, 18);
+        x.put(2, 1);
+        dueFraction("15 seldom right", x, x.two(), 54 * 9 + 162 * 2, 9 * 9 + 234 * 9 + 198 * 2, 9);
+        x.put(1, 40);
+        dueFraction("15 all that is there is thin", x, x.odds(0, 7), 31, 49);
+        tell(x, "idle 1;");
+        // now the look at minute 1 counts: it saw a little, and there is none by all of them
+        dueFraction("15 all of them wrong", x, x.odds(0, 7), 31, 49);
+        x.put(0, 1);
+        dueFraction("15 nor does warmth change it", x, x.odds(0, 7), 31, 49);
+    }
+
+    private static void promise15OddsByWarmth() {
+        BlueSmoke x = day("idle 1;");
+        for (int kind = 0; kind < 7; kind++) {
+            x.prior(kind, kind == 2 ? 1 : 0);
+        }
+        x.look(0, 1, NONE, 0);
+        // SWEET 5 10 15 at 0, none at 100
+        dueFraction("15 cold", x, x.odds(0, 7), 9 * 16 + 162 * 2 + 108 * 2, 9 * 16 + 432 * 2, 36);
+        x.put(0, 100);
+        dueFraction("15 warm", x, x.odds(0, 7), 31, 49);
+        x.put(0, 0);
+        x.put(3, 0);
+        dueFraction("15 cold, never sound", x, x.odds(0, 7), 5, 8);
+        x.clear();
+        dueFraction("15 no day", x, x.odds(0, 7), 5, 8);
     }
 
     private static void promise16Two() {
@@ -601,6 +661,20 @@ public final class Promises {
         y.look(0, 0, NONE, 0);
         // nothing: 9 * 4096 = 36864 against 432 * 8 in all else: none cut has the least in it
         due("19 none cut", y.next(0), 4);
+        BlueSmoke w = ringedAlone("pull 2 1;");
+        // blue 2 4 6. none cut: nothing 9, thin 4 * 45 + 6 * 9 = 234; cut: thin 135 + 90 + 27 = 252
+        due("19 by thin 5", w.next(0), 4);
+        w.put(1, 2);
+        // none cut: more 4 * 27 + 6 * 36 = 324; cut: more 81 + 54 + 108 = 243
+        due("19 by thin 2", w.next(0), 0);
+        w.put(1, 6);
+        // none cut: thin 216 + 6 * 21 = 342; cut: thin 162 + 108 + 63 = 333
+        due("19 by thin 6", w.next(0), 0);
+        w.look(0, 0, 0, 2);
+        w.look(0, 0, 0, 2);
+        w.look(0, 0, 0, 2);
+        // so it is two but 0: all of them more than 6 (with 4096): the likeliest, if any is cut, is thin
+        due("19 what was looked at is not the best", w.next(0), 1);
         BlueSmoke z = day("idle 1;");
         z.prior(0, 0);
         z.prior(1, 0);
@@ -608,8 +682,8 @@ public final class Promises {
         z.prior(5, 0);
         z.prior(2, 0);
         z.prior(6, 0);
-        // LATE alone gives nothing but SHARP
-        due("19 sharp", z.next(0) / 10, 2);
+        // LATE alone gives nothing but SHARP: 3 (thin), 7, 10; cut none: more by 324, cut 0: by 243
+        due("19 sharp", z.next(0), 20);
         for (int kind = 0; kind < 7; kind++) {
             z.prior(kind, 0);
         }
@@ -676,6 +750,18 @@ public final class Promises {
         dueFraction("22 two in three", x, x.gone(2, 1, 3), 29, 4000);
         dueFraction("22 too few days", x, x.gone(1, 9, 2), 0, 1);
         dueFraction("22 three", x, x.gone(1, 9, 3), 729, 8000);
+        // 5 by 20 on 3 or 4 of 4 days: (4 * 3 + 1) / 256
+        dueFraction("22 three in four", x, x.gone(1, 5, 4), 13, 256);
+        dueFraction("22 two in four", x, x.gone(2, 5, 4), 6 * 9 + 13, 256);
+        dueFraction("22 one in four", x, x.gone(3, 5, 4), 256 - 81, 256);
+        // 1 - (9/10)^20: 87842334540943071199 by 10^20, three limbs each
+        due("22 lowered in three limbs", x.gone(3, 2, 20), 1);
+        due("22 above, lowest", x.limb(0, 0), 972036063);
+        due("22 above, second", x.limb(0, 1), 205170540);
+        due("22 above, third", x.limb(0, 2), 76);
+        due("22 below, lowest", x.limb(1, 0), 588251136);
+        due("22 below, second", x.limb(1, 1), 790460597);
+        due("22 below, third", x.limb(1, 2), 86);
         // 1 - (19/20)^20: below 20^20 in limbs of 30 bits
         due("22 twenty days", x.gone(3, 1, 20), 1);
         due("22 limbs below", x.sign(2), 3);
@@ -792,6 +878,16 @@ public final class Promises {
         due("26 what is never needed is not bought", y.takes(999), 7);
         due("26 the cheaper two", y.takes(11), 6);
         due("26 as many as there is coin for", y.takes(10), 6);
+        BlueSmoke six = new BlueSmoke();
+        for (int i = 0; i < 6; i++) {
+            six.part(1 + i, 10 * (6 - i), 1 + i % 2);
+        }
+        // worth 60 100 40 60 20 20 for 1 2 3 4 5 6
+        due("26 six, coin 21", six.takes(21), 63);
+        due("26 six, coin 20", six.takes(20), 63 - 32);
+        due("26 six, coin 15", six.takes(15), 15 + 16);
+        due("26 six, coin 10", six.takes(10), 15);
+        due("26 six, coin 7", six.takes(7), 1 + 2 + 8);
         BlueSmoke z = new BlueSmoke();
         z.part(2, 4, 1);
         z.part(3, 6, 1);
@@ -981,6 +1077,7 @@ public final class Promises {
         promise14Forget();
         promise15Odds();
         promise15OddsByLooks();
+        promise15OddsByWarmth();
         promise16Two();
         promise17Likeliest();
         promise18Guess();

@@ -849,7 +849,7 @@ public final class BlueSmoke {
         }
 
         private static int over(int deep, int load) {
-            return Math.max(deep * (load - 4), 0);
+            return load > 4 ? deep * (load - 4) : 0;
         }
 
         boolean givesNothing(int fault) {
