@@ -754,6 +754,8 @@ public final class Promises {
         dueFraction("22 three in four", x, x.gone(1, 5, 4), 13, 256);
         dueFraction("22 two in four", x, x.gone(2, 5, 4), 6 * 9 + 13, 256);
         dueFraction("22 one in four", x, x.gone(3, 5, 4), 256 - 81, 256);
+        // 1 - (3/4)^20, lowered by 5 twenty times
+        dueFraction("22 lowered from three limbs", x, x.gone(3, 5, 20), 1096024843375L, 1099511627776L);
         // 1 - (9/10)^20: 87842334540943071199 by 10^20, three limbs each
         due("22 lowered in three limbs", x.gone(3, 2, 20), 1);
         due("22 above, lowest", x.limb(0, 0), 972036063);
@@ -878,6 +880,12 @@ public final class Promises {
         due("26 what is never needed is not bought", y.takes(999), 7);
         due("26 the cheaper two", y.takes(11), 6);
         due("26 as many as there is coin for", y.takes(10), 6);
+        BlueSmoke one = new BlueSmoke();
+        one.part(1, 99, 0);
+        due("26 never needed", one.takes(999), 0);
+        one.part(1, 1, 1);
+        due("26 hardly needed", one.takes(1), 2);
+        due("26 hardly needed, none else", one.takes(999), 2);
         BlueSmoke six = new BlueSmoke();
         for (int i = 0; i < 6; i++) {
             six.part(1 + i, 10 * (6 - i), 1 + i % 2);
