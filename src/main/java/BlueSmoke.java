@@ -402,18 +402,20 @@ public final class BlueSmoke {
     // ---- what is refused, and the bounds that calls share
 
     private int bad() {
-        refused[0]++;
-        return BAD;
+        return refuse(0, BAD);
     }
 
     private int no() {
-        refused[1]++;
-        return NO;
+        return refuse(1, NO);
     }
 
     private int full() {
-        refused[2]++;
-        return FULL;
+        return refuse(2, FULL);
+    }
+
+    private int refuse(int which, int answer) {
+        set(refused, which, at(refused, which) + 1);
+        return answer;
     }
 
     private static boolean isSetting(int what, int v) {
@@ -1098,7 +1100,7 @@ public final class BlueSmoke {
         private final long[] atThree = new long[LIMBS];
 
         Fraction() {
-            below[0] = 1;
+            write(below, 1);
         }
 
         /** A part (0 or more) of a whole (above 0). */
